@@ -1,0 +1,54 @@
+/** Counts the answers of a test that are not the ones that are due, and prints each. */
+final class Due {
+    private final String test;
+    private int checks = 0;
+    private int wrong = 0;
+
+    Due(String test) {
+        this.test = test;
+    }
+
+    void is(String call, long got, long want) {
+        checks++;
+        if (got != want) {
+            wrong++;
+            System.out.println(test + ": " + call + " answered " + got + ", due is " + want);
+        }
+    }
+
+    void holds(String fact, boolean held) {
+        checks++;
+        if (!held) {
+            wrong++;
+            System.out.println(test + ": it does not hold that " + fact);
+        }
+    }
+
+    /** Compares all that two shapers, or one shaper at two times, show to the outside. */
+    void sameView(String when, long[] got, long[] want) {
+        checks++;
+        for (int i = 0; i < want.length; i++) {
+            if (got[i] != want[i]) {
+                wrong++;
+                System.out.println(test + ": " + when + ": " + View.nameOf(i) + " answered " + got[i]
+                        + ", due is " + want[i]);
+                return;
+            }
+        }
+    }
+
+    boolean anyWrong() {
+        return wrong > 0;
+    }
+
+    void end() {
+        if (checks == 0) {
+            System.out.println(test + ": nothing was checked");
+        } else {
+            System.out.println(test + ": " + checks + " checks, " + wrong + " wrong");
+        }
+        if (checks == 0 || wrong > 0) {
+            System.exit(1);
+        }
+    }
+}
