@@ -16,6 +16,14 @@ final class Due {
         }
     }
 
+    void reads(String what, String got, String want) {
+        checks++;
+        if (!got.equals(want)) {
+            wrong++;
+            System.out.println(test + ": " + what + " is '" + got + "', due is '" + want + "'");
+        }
+    }
+
     void holds(String fact, boolean held) {
         checks++;
         if (!held) {
