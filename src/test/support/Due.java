@@ -1,11 +1,27 @@
 /** Counts the answers of a test that are not the ones that are due, and prints each. */
 final class Due {
+    private static final int SECONDS_FOR_A_TEST = 300;
+
     private final String test;
     private int checks = 0;
     private int wrong = 0;
 
     Due(String test) {
         this.test = test;
+        Thread watch = new Thread(this::stopWhenTooLong);
+        watch.setDaemon(true);
+        watch.start();
+    }
+
+    /** A call that does not end is a fault as well, and must not keep the other tests waiting. */
+    private void stopWhenTooLong() {
+        try {
+            Thread.sleep(SECONDS_FOR_A_TEST * 1000L);
+        } catch (InterruptedException e) {
+            return;
+        }
+        System.out.println(test + ": not done after " + SECONDS_FOR_A_TEST + " seconds");
+        Runtime.getRuntime().halt(1);
     }
 
     void is(String call, long got, long want) {
