@@ -59,6 +59,7 @@ public final class HierShaper {
     private final int depth;
 
     private final int[] kinds = new int[CLASS_COUNT];
+    // Asked for leaves alone: above an inner class there is only the root.
     private final int[] parents = new int[CLASS_COUNT];
     private final int[] rates = new int[CLASS_COUNT];
     private final int[] ceils = new int[CLASS_COUNT];
@@ -100,7 +101,6 @@ public final class HierShaper {
             return EXISTS;
         }
         openClass(id, KIND_INNER, rate, ceil);
-        parents[id] = ROOT;
         return OK;
     }
 
@@ -209,8 +209,9 @@ public final class HierShaper {
         if (kind(id) != KIND_LEAF) {
             return 0L;
         }
+        int count = queueCounts[id];
         long total = 0L;
-        for (int place = 0; place < queueCounts[id]; place++) {
+        for (int place = 0; place < count; place++) {
             int slot = queueSlot(id, place);
             total += queueSizes[slot];
         }

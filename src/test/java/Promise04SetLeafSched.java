@@ -17,24 +17,28 @@ public final class Promise04SetLeafSched {
         }
     }
 
-    /** Leaves 2 to 5 hold the four priorities; leaf 6 is served right after the one that shares its own. */
+    /**
+     * Leaves 3 to 6 hold the four priorities. Leaf 2 is served right before the one that shares its own,
+     * and leaf 7 right after it.
+     */
     private static void priorityIsClamped() {
         int[][] givenAndDue = {
             {0, 0}, {1, 1}, {2, 2}, {3, 3}, {-1, 0}, {Integer.MIN_VALUE, 0},
             {4, 3}, {5, 3}, {Integer.MAX_VALUE, 3}
         };
-        String[] order = {"2 6 3 4 5", "2 3 6 4 5", "2 3 4 6 5", "2 3 4 5 6"};
+        String[] order = {"2 3 7 4 5 6", "3 2 4 7 5 6", "3 4 2 5 7 6", "3 4 5 2 6 7"};
         for (int[] row : givenAndDue) {
-            HierShaper x = Shapers.wide(2, 3, 4, 5, 6);
-            for (int leaf = 2; leaf <= 5; leaf++) {
-                due.is("setLeafSched(" + leaf + ", ..)", x.setLeafSched(leaf, leaf - 2, 256), HierShaper.OK);
+            HierShaper x = Shapers.wide(2, 3, 4, 5, 6, 7);
+            for (int leaf = 3; leaf <= 6; leaf++) {
+                due.is("setLeafSched(" + leaf + ", ..)", x.setLeafSched(leaf, leaf - 3, 256), HierShaper.OK);
             }
-            due.is("setLeafSched(6, " + row[0] + ", 256)", x.setLeafSched(6, row[0], 256), HierShaper.OK);
-            for (int leaf = 6; leaf >= 2; leaf--) {
+            due.is("setLeafSched(2, " + row[0] + ", 256)", x.setLeafSched(2, row[0], 256), HierShaper.OK);
+            due.is("setLeafSched(7, " + row[0] + ", 256)", x.setLeafSched(7, row[0], 256), HierShaper.OK);
+            for (int leaf = 7; leaf >= 2; leaf--) {
                 Sends.offer(x, leaf, 100);
             }
             x.run(1);
-            due.reads("the sends at priority " + row[0], Sends.lastLeaves(x, 5), order[row[1]]);
+            due.reads("the sends at priority " + row[0], Sends.lastLeaves(x, 6), order[row[1]]);
         }
     }
 

@@ -35,6 +35,29 @@ public final class Promise06Refill {
         buckets("tick 13", x, 2, 21, 60);
     }
 
+    /** Every id is refilled, the first and the last as well, each by its own rates. */
+    private static void everyClassIsRefilled() {
+        for (int inner = 1; inner <= 15; inner += 7) {
+            HierShaper x = new HierShaper(65536, 8, 16);
+            x.addInner(inner, 2, 65536);
+            for (int leaf = 1; leaf <= 15; leaf++) {
+                if (leaf != inner) {
+                    x.addLeaf(leaf, inner, leaf, 100 * leaf);
+                    x.enqueue(leaf, 255);
+                }
+            }
+            due.is("run(1)", x.run(1), 14);
+            x.run(2);
+            buckets("3 ticks", x, inner, 32 - 14 * 4080 + 4, 1048576);
+            for (int leaf = 1; leaf <= 15; leaf++) {
+                if (leaf != inner) {
+                    long ctokens = Math.min(16 * 100 * leaf - 4080 + 200 * leaf, 1600 * leaf);
+                    buckets("3 ticks", x, leaf, 16 * leaf - 4080 + 2 * leaf, ctokens);
+                }
+            }
+        }
+    }
+
     /** Each tick refills before it sends: a bucket at exactly 0 after the refill sends again. */
     private static void refillComesBeforeSending() {
         HierShaper x = new HierShaper(100, 8, 3);
@@ -113,6 +136,7 @@ public final class Promise06Refill {
 
     public static void main(String[] args) {
         bucketsGrowToTheirCapacity();
+        everyClassIsRefilled();
         refillComesBeforeSending();
         ticksAddUp();
         ticksAreLimited();

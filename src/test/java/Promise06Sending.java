@@ -237,6 +237,55 @@ public final class Promise06Sending {
         }
     }
 
+    /**
+     * Leaf 9 and then leaf 8 send at one level and priority, which leaves that pointer at 9; at another
+     * level or priority 8 still comes before 9.
+     */
+    private static void everyLevelAndPriorityHasItsOwnPointer() {
+        for (int p = 0; p <= 3; p++) {
+            for (int q = 0; q <= 3; q++) {
+                HierShaper x = new HierShaper(65536, 8, 16);
+                x.addInner(1, 800, 65536);
+                x.addLeaf(2, 1, 65536, 65536);
+                x.addLeaf(8, 1, 1, 65536);
+                x.addLeaf(9, 1, 1, 65536);
+                sendAt(x, p, 9);
+                sendAt(x, p, 8);
+                sendAt(x, q, 9, 8);
+                sendAt(x, q, 8);
+                due.reads("the sends of levels 0 and 1, priorities " + p + " and " + q, Sends.last(x, 5),
+                        "9@0:200 8@0:200 8@1:200 9@1:200 8@1:200");
+                Sends.offerMany(x, 2, 8, 255);
+                x.run(1);
+                sendAt(x, p, 9, 8);
+                due.reads("the sends of level 2, priority " + p, Sends.last(x, 2), "8@2:200 9@2:200");
+            }
+        }
+    }
+
+    private static void sendAt(HierShaper x, int priority, int... leaves) {
+        for (int leaf : leaves) {
+            x.setLeafSched(leaf, priority, 256);
+            x.enqueue(leaf, 200);
+        }
+        due.is("run(1)", x.run(1), leaves.length);
+    }
+
+    /** The first and the last id alone, at every priority and level. */
+    private static void aLeafAloneIsFound() {
+        for (int leaf = 1; leaf <= 15; leaf += 14) {
+            for (int priority = 0; priority <= 3; priority++) {
+                HierShaper x = new HierShaper(1000, 8, 1);
+                x.addInner(8, 200, 700);
+                x.addLeaf(leaf, 8, 100, 600);
+                x.setLeafSched(leaf, priority, 256);
+                Sends.offer(x, leaf, 10, 10, 10);
+                due.is("run(1)", x.run(1), 3);
+                due.reads("the sends", Sends.last(x, 3), leaf + "@0:10 " + leaf + "@1:10 " + leaf + "@2:10");
+            }
+        }
+    }
+
     private static void aTickCanSendAllThereIs() {
         HierShaper x = Shapers.wide(2, 3, 4, 5, 6, 7, 8, 9, 10, 11, 12, 13, 14, 15);
         for (int leaf = 2; leaf <= 15; leaf++) {
@@ -268,6 +317,8 @@ public final class Promise06Sending {
         afterFifteenComesOne();
         theScanStartsAtThePointer();
         levelsHaveTheirOwnPointersAndDeficits();
+        everyLevelAndPriorityHasItsOwnPointer();
+        aLeafAloneIsFound();
         aTickCanSendAllThereIs();
         due.end();
     }

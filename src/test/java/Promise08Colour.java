@@ -72,6 +72,26 @@ public final class Promise08Colour {
         }
     }
 
+    /** A debt of a single token counts, and so does a bucket of exactly 0, the other way. */
+    private static void theEdgeIsOneToken() {
+        for (int debt = 0; debt <= 1; debt++) {
+            int rate = 160 - debt;
+            HierShaper x = new HierShaper(rate, 8, 1);
+            x.addInner(1, rate, 65536);
+            x.addInner(2, 65536, 65536);
+            x.addLeaf(3, 1, 65536, 65536);
+            x.addLeaf(4, 2, rate, rate);
+            x.enqueue(3, 10);
+            x.run(1);
+            due.is("colour(0) at " + -debt, x.colour(0), debt == 0 ? HierShaper.GREEN : HierShaper.RED);
+            due.is("colour(1) at " + -debt, x.colour(1), debt == 0 ? HierShaper.GREEN : HierShaper.YELLOW);
+            x.run(1);
+            x.enqueue(4, 10);
+            x.run(1);
+            due.is("colour(4) at " + -debt, x.colour(4), debt == 0 ? HierShaper.GREEN : HierShaper.RED);
+        }
+    }
+
     private static void askingChangesNothing() {
         HierShaper x = Shapers.busy();
         long[] before = View.of(x);
@@ -86,6 +106,7 @@ public final class Promise08Colour {
         leafAndInner();
         rootIsGreenOrRed();
         coloursFollowTheBuckets();
+        theEdgeIsOneToken();
         askingChangesNothing();
         due.end();
     }
