@@ -2,16 +2,8 @@
 public final class Promise05Enqueue {
     private static final Due due = new Due("Promise05Enqueue");
 
-    private static HierShaper shaper() {
-        HierShaper x = new HierShaper(65536, 3, 16);
-        x.addInner(1, 65536, 65536);
-        x.addLeaf(2, 1, 65536, 65536);
-        x.addLeaf(15, 1, 65536, 65536);
-        return x;
-    }
-
     private static void packetsAreAppended() {
-        HierShaper x = shaper();
+        HierShaper x = Shapers.wideWithLimit(3, 2, 15);
         int[] sizes = {1, 255, 77};
         long bytes = 0;
         for (int i = 0; i < sizes.length; i++) {
@@ -30,7 +22,7 @@ public final class Promise05Enqueue {
     }
 
     private static void aFullQueueDrops() {
-        HierShaper x = shaper();
+        HierShaper x = Shapers.wideWithLimit(3, 2, 15);
         Sends.offer(x, 2, 10, 20, 30);
         long[] before = View.of(x);
         due.is("enqueue(2, 255) on a full queue", x.enqueue(2, 255), HierShaper.DROPPED);
@@ -63,7 +55,7 @@ public final class Promise05Enqueue {
     private static void refusedCallsChangeNothing() {
         int[] notLeaves = {0, 1, 3, 14, 16, 17, -1, Integer.MIN_VALUE, Integer.MAX_VALUE};
         int[] badSizes = {0, -1, 256, 257, 512, Integer.MIN_VALUE, Integer.MAX_VALUE};
-        HierShaper x = shaper();
+        HierShaper x = Shapers.wideWithLimit(3, 2, 15);
         for (int filled = 0; filled < 3; filled++) {
             for (int id : notLeaves) {
                 refused(x, id, 10, HierShaper.NOT_LEAF);
@@ -83,7 +75,7 @@ public final class Promise05Enqueue {
 
     /** A queue that is filled and emptied many times keeps its order and its limit. */
     private static void theQueueGoesRound() {
-        HierShaper x = shaper();
+        HierShaper x = Shapers.wideWithLimit(3, 2, 15);
         int size = 1;
         for (int round = 0; round < 60; round++) {
             StringBuilder want = new StringBuilder();

@@ -2,11 +2,6 @@
 public final class Promise06Refill {
     private static final Due due = new Due("Promise06Refill");
 
-    private static void buckets(String when, HierShaper x, int id, long tokens, long ctokens) {
-        due.is(when + ": tokens(" + id + ")", x.tokens(id), tokens);
-        due.is(when + ": ctokens(" + id + ")", x.ctokens(id), ctokens);
-    }
-
     /** Leaf 2 sends 80 tokens' worth and then every bucket climbs back by its own rate. */
     private static void bucketsGrowToTheirCapacity() {
         HierShaper x = new HierShaper(100, 8, 3);
@@ -14,25 +9,25 @@ public final class Promise06Refill {
         x.addLeaf(2, 1, 7, 20);
         x.enqueue(2, 5);
         due.is("run(1)", x.run(1), 1);
-        buckets("tick 1", x, 0, 300 - 80, 300 - 80);
-        buckets("tick 1", x, 1, 30 - 80, 150 - 80);
-        buckets("tick 1", x, 2, 21 - 80, 60 - 80);
+        due.buckets("tick 1", x, 0, 300 - 80, 300 - 80);
+        due.buckets("tick 1", x, 1, 30 - 80, 150 - 80);
+        due.buckets("tick 1", x, 2, 21 - 80, 60 - 80);
         due.is("run(1)", x.run(1), 0);
-        buckets("tick 2", x, 0, 300, 300);
-        buckets("tick 2", x, 1, -40, 120);
-        buckets("tick 2", x, 2, -52, 0);
+        due.buckets("tick 2", x, 0, 300, 300);
+        due.buckets("tick 2", x, 1, -40, 120);
+        due.buckets("tick 2", x, 2, -52, 0);
         due.is("run(1)", x.run(1), 0);
-        buckets("tick 3", x, 1, -30, 150);
-        buckets("tick 3", x, 2, -45, 20);
+        due.buckets("tick 3", x, 1, -30, 150);
+        due.buckets("tick 3", x, 2, -45, 20);
         due.is("run(2)", x.run(2), 0);
-        buckets("tick 5", x, 1, -10, 150);
-        buckets("tick 5", x, 2, -31, 60);
+        due.buckets("tick 5", x, 1, -10, 150);
+        due.buckets("tick 5", x, 2, -31, 60);
         due.is("run(4)", x.run(4), 0);
-        buckets("tick 9", x, 0, 300, 300);
-        buckets("tick 9", x, 1, 30, 150);
-        buckets("tick 9", x, 2, -3, 60);
+        due.buckets("tick 9", x, 0, 300, 300);
+        due.buckets("tick 9", x, 1, 30, 150);
+        due.buckets("tick 9", x, 2, -3, 60);
         due.is("run(4)", x.run(4), 0);
-        buckets("tick 13", x, 2, 21, 60);
+        due.buckets("tick 13", x, 2, 21, 60);
     }
 
     /** Every id is refilled, the first and the last as well, each by its own rates. */
@@ -48,11 +43,11 @@ public final class Promise06Refill {
             }
             due.is("run(1)", x.run(1), 14);
             x.run(2);
-            buckets("3 ticks", x, inner, 32 - 14 * 4080 + 4, 1048576);
+            due.buckets("3 ticks", x, inner, 32 - 14 * 4080 + 4, 1048576);
             for (int leaf = 1; leaf <= 15; leaf++) {
                 if (leaf != inner) {
                     long ctokens = Math.min(16 * 100 * leaf - 4080 + 200 * leaf, 1600 * leaf);
-                    buckets("3 ticks", x, leaf, 16 * leaf - 4080 + 2 * leaf, ctokens);
+                    due.buckets("3 ticks", x, leaf, 16 * leaf - 4080 + 2 * leaf, ctokens);
                 }
             }
         }
@@ -67,12 +62,12 @@ public final class Promise06Refill {
         due.is("run(1)", x.run(1), 1);
         due.is("colour(2) at -20", x.colour(2), HierShaper.RED);
         due.is("run(1), refilled to 0", x.run(1), 1);
-        buckets("tick 2", x, 0, 300 - 16, 300 - 16);
-        buckets("tick 2", x, 1, -40, 120 - 16);
-        buckets("tick 2", x, 2, -52, -16);
+        due.buckets("tick 2", x, 0, 300 - 16, 300 - 16);
+        due.buckets("tick 2", x, 1, -40, 120 - 16);
+        due.buckets("tick 2", x, 2, -52, -16);
         due.reads("the sends", Sends.last(x, 2), "2@0:5 2@2:1");
         due.is("run(1), refilled to 4", x.run(1), 1);
-        buckets("tick 3", x, 2, -45, 4 - 16);
+        due.buckets("tick 3", x, 2, -45, 4 - 16);
     }
 
     /** A call of n ticks is n calls of one tick. */

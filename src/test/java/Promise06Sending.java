@@ -2,11 +2,6 @@
 public final class Promise06Sending {
     private static final Due due = new Due("Promise06Sending");
 
-    private static void buckets(String when, HierShaper x, int id, long tokens, long ctokens) {
-        due.is(when + ": tokens(" + id + ")", x.tokens(id), tokens);
-        due.is(when + ": ctokens(" + id + ")", x.ctokens(id), ctokens);
-    }
-
     /** Three packets of 10 bytes: on the leaf's own rate, on the inner class's, on the link's. */
     private static void chargingByLevel() {
         HierShaper x = new HierShaper(1000, 8, 1);
@@ -17,11 +12,11 @@ public final class Promise06Sending {
         Sends.offer(x, 2, 10, 10, 10);
         due.is("run(1)", x.run(1), 3);
         due.reads("the sends", Sends.last(x, 3), "2@0:10 2@1:10 2@2:10");
-        buckets("after three levels", x, 2, 100 - 160, 600 - 480);
-        buckets("after three levels", x, 1, 200 - 320, 700 - 480);
-        buckets("after three levels", x, 0, 1000 - 480, 1000 - 480);
-        buckets("off the path", x, 3, 7, 8);
-        buckets("off the path", x, 9, 5, 6);
+        due.buckets("after three levels", x, 2, 100 - 160, 600 - 480);
+        due.buckets("after three levels", x, 1, 200 - 320, 700 - 480);
+        due.buckets("after three levels", x, 0, 1000 - 480, 1000 - 480);
+        due.buckets("off the path", x, 3, 7, 8);
+        due.buckets("off the path", x, 9, 5, 6);
         due.is("sentBytes(2)", x.sentBytes(2), 30);
         due.is("sentBytes(1)", x.sentBytes(1), 30);
         due.is("sentBytes(0)", x.sentBytes(0), 30);
@@ -53,7 +48,7 @@ public final class Promise06Sending {
         Sends.offer(x, 2, 2, 1, 1);
         due.is("run(1)", x.run(1), 2);
         due.reads("the sends", Sends.last(x, 2), "2@0:2 2@0:1");
-        buckets("at the end", x, 2, -16, -16);
+        due.buckets("at the end", x, 2, -16, -16);
     }
 
     private static void aRedLeafWaits() {
@@ -294,7 +289,7 @@ public final class Promise06Sending {
         due.is("run(1)", x.run(1), 14 * 8);
         due.is("sentBytes(0)", x.sentBytes(0), 14 * 8 * 255);
         due.is("sentBytes(1)", x.sentBytes(1), 14 * 8 * 255);
-        buckets("after 112 packets", x, 0, 1048576 - 112 * 4080, 1048576 - 112 * 4080);
+        due.buckets("after 112 packets", x, 0, 1048576 - 112 * 4080, 1048576 - 112 * 4080);
         for (int leaf = 2; leaf <= 15; leaf++) {
             due.is("queueLength(" + leaf + ")", x.queueLength(leaf), 0);
             due.is("sentBytes(" + leaf + ")", x.sentBytes(leaf), 2040);

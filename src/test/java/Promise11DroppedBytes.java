@@ -2,16 +2,8 @@
 public final class Promise11DroppedBytes {
     private static final Due due = new Due("Promise11DroppedBytes");
 
-    private static HierShaper shaper() {
-        HierShaper x = new HierShaper(65536, 1, 16);
-        x.addInner(1, 65536, 65536);
-        x.addLeaf(2, 1, 65536, 65536);
-        x.addLeaf(15, 1, 65536, 65536);
-        return x;
-    }
-
     private static void dropsAddUpByLeaf() {
-        HierShaper x = shaper();
+        HierShaper x = Shapers.wideWithLimit(1, 2, 15);
         Sends.offer(x, 2, 100, 1, 255);
         Sends.offer(x, 15, 100, 33);
         due.is("droppedBytes(2)", x.droppedBytes(2), 256);
@@ -27,7 +19,7 @@ public final class Promise11DroppedBytes {
     }
 
     private static void othersDropNothing() {
-        HierShaper x = shaper();
+        HierShaper x = Shapers.wideWithLimit(1, 2, 15);
         Sends.offer(x, 2, 100, 1, 255);
         long[] before = View.of(x);
         int[] notLeaves = {0, 1, 3, 14, -1, -2, 16, 17, 18, 32, Integer.MIN_VALUE, Integer.MAX_VALUE};
@@ -38,7 +30,7 @@ public final class Promise11DroppedBytes {
     }
 
     private static void countsAreLongs() {
-        HierShaper x = shaper();
+        HierShaper x = Shapers.wideWithLimit(1, 2, 15);
         x.enqueue(2, 1);
         long want = 0;
         while (want <= Integer.MAX_VALUE) {

@@ -32,6 +32,11 @@ final class Due {
         }
     }
 
+    void buckets(String when, HierShaper x, int id, long tokens, long ctokens) {
+        is(when + ": tokens(" + id + ")", x.tokens(id), tokens);
+        is(when + ": ctokens(" + id + ")", x.ctokens(id), ctokens);
+    }
+
     void reads(String what, String got, String want) {
         checks++;
         if (!got.equals(want)) {

@@ -5,7 +5,11 @@ final class Shapers {
 
     /** One inner class, 1, and leaves under it, all so wide that every leaf stays green. */
     static HierShaper wide(int... leaves) {
-        HierShaper x = new HierShaper(65536, 8, 16);
+        return wideWithLimit(8, leaves);
+    }
+
+    static HierShaper wideWithLimit(int queueLimit, int... leaves) {
+        HierShaper x = new HierShaper(65536, queueLimit, 16);
         x.addInner(1, 65536, 65536);
         for (int leaf : leaves) {
             x.addLeaf(leaf, 1, 65536, 65536);
