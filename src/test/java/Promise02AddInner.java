@@ -1,103 +1,161 @@
-/** Promise 2: adding an inner class. */
+/** Promise 2: adding an inner class. Above each test stand the words that it holds the program to. */
 public final class Promise02AddInner {
     private static final Due due = new Due("Promise02AddInner");
 
-    private static void everyIdCanBeAdded() {
+    /** Every id of 1..15 is taken, "the class now exists with kind `KIND_INNER`", "answers `OK`". */
+    private static void idsFromOneToFifteenAreTaken() {
         HierShaper x = new HierShaper(256, 4, 2);
         for (int id = 1; id <= 15; id++) {
             due.is("addInner(" + id + ", ..)", x.addInner(id, 10 * id, 20 * id), HierShaper.OK);
             due.is("kind(" + id + ")", x.kind(id), HierShaper.KIND_INNER);
-            due.is("tokens(" + id + ")", x.tokens(id), 20L * id);
-            due.is("ctokens(" + id + ")", x.ctokens(id), 40L * id);
+            due.buckets("right after", x, id, 20L * id, 40L * id);
             due.is("sentBytes(" + id + ")", x.sentBytes(id), 0);
             due.is("colour(" + id + ")", x.colour(id), HierShaper.GREEN);
-            due.is("deficit(" + id + ", 0)", x.deficit(id, 0), -1);
         }
         due.is("kind(0)", x.kind(0), HierShaper.KIND_ROOT);
     }
 
-    private static void ratesAreClamped() {
+    /** "id < 1 or id > 15: answers `BAD_ID` (this includes id 0 and every negative id)", and changes nothing. */
+    private static void otherIdsAreBad() {
+        for (int id : Edges.join(new int[] {0}, Edges.OUTSIDE_IDS)) {
+            Twins.refused(due, "addInner(" + id + ", 50, 60)", HierShaper.BAD_ID, x -> x.addInner(id, 50, 60));
+        }
+    }
+
+    /** The root exists as well, but the id is looked at first. */
+    private static void theRootIsABadIdBeforeItExists() {
+        HierShaper x = new HierShaper(256, 4, 2);
+        due.is("addInner(0, 1, 1)", x.addInner(0, 1, 1), HierShaper.BAD_ID);
+        due.is("kind(0)", x.kind(0), HierShaper.KIND_ROOT);
+        due.buckets("after addInner(0, 1, 1)", x, 0, 512, 512);
+    }
+
+    /** "class id already exists (as inner or leaf): answers `EXISTS`", and changes nothing. */
+    private static void usedIdsExist() {
+        for (int id : Edges.join(Family.INNERS, Family.LEAVES)) {
+            Twins.refused(due, "addInner(" + id + ", 50, 60)", HierShaper.EXISTS, x -> x.addInner(id, 50, 60));
+        }
+    }
+
+    /** The first and the last id, each used as inner and as leaf. */
+    private static void theEndsOfTheRangeExistOnceAdded() {
+        for (int inner = 1; inner <= 15; inner += 14) {
+            int leaf = 16 - inner;
+            HierShaper x = new HierShaper(256, 4, 2);
+            due.is("addInner(" + inner + ", 1, 1)", x.addInner(inner, 1, 1), HierShaper.OK);
+            due.is("addInner(" + inner + ", 1, 1) again", x.addInner(inner, 1, 1), HierShaper.EXISTS);
+            due.is("addLeaf(" + leaf + ", ..)", x.addLeaf(leaf, inner, 1, 1), HierShaper.OK);
+            due.is("addInner(" + leaf + ", 1, 1)", x.addInner(leaf, 1, 1), HierShaper.EXISTS);
+            due.is("kind(" + leaf + ")", x.kind(leaf), HierShaper.KIND_LEAF);
+        }
+    }
+
+    private static void clamped(int rate, int ceil, long dueRate, long dueCeil) {
+        for (int depth = 1; depth <= 16; depth += 15) {
+            String call = "addInner(3, " + rate + ", " + ceil + ")";
+            HierShaper x = new HierShaper(256, 4, depth);
+            due.is(call, x.addInner(3, rate, ceil), HierShaper.OK);
+            due.buckets(call + " at depth " + depth, x, 3, dueRate * depth, dueCeil * depth);
+        }
+    }
+
+    /** "rate is clamped into 1..65536" */
+    private static void rateIsClamped() {
+        int[][] givenAndDue = {
+            {1, 1}, {2, 2}, {300, 300}, {65535, 65535}, {65536, 65536},
+            {0, 1}, {-1, 1}, {-65536, 1}, {Integer.MIN_VALUE, 1},
+            {65537, 65536}, {131073, 65536}, {Integer.MAX_VALUE, 65536}
+        };
+        for (int[] row : givenAndDue) {
+            clamped(row[0], 65536, row[1], 65536);
+        }
+    }
+
+    /** "ceil is clamped into r..65536, where r is the clamped rate (below r becomes r)" */
+    private static void ceilIsClamped() {
         int[][] rateCeilAndDue = {
-            {1, 1, 1, 1}, {2, 9, 2, 9}, {65535, 65536, 65535, 65536}, {65536, 65536, 65536, 65536},
-            {0, 5, 1, 5}, {-1, 5, 1, 5}, {Integer.MIN_VALUE, 5, 1, 5},
-            {65537, 5, 65536, 65536}, {Integer.MAX_VALUE, Integer.MIN_VALUE, 65536, 65536},
-            {100, 99, 100, 100}, {100, 100, 100, 100}, {100, 101, 100, 101}, {100, -1, 100, 100},
-            {100, Integer.MIN_VALUE, 100, 100}, {100, 65537, 100, 65536},
-            {100, Integer.MAX_VALUE, 100, 65536}, {0, 0, 1, 1}, {-5, -9, 1, 1}
+            {100, 100, 100, 100}, {100, 101, 100, 101}, {100, 65535, 100, 65535}, {100, 65536, 100, 65536},
+            {100, 99, 100, 100}, {100, 1, 100, 100}, {100, 0, 100, 100}, {100, -1, 100, 100},
+            {100, Integer.MIN_VALUE, 100, 100}, {100, 65537, 100, 65536}, {100, Integer.MAX_VALUE, 100, 65536},
+            {1, 1, 1, 1}, {1, 0, 1, 1}, {1, 2, 1, 2},
+            {65536, 65535, 65536, 65536}, {65536, 65536, 65536, 65536}, {65536, 65537, 65536, 65536}
         };
         for (int[] row : rateCeilAndDue) {
-            String call = "addInner(3, " + row[0] + ", " + row[1] + ")";
-            HierShaper x = new HierShaper(256, 4, 3);
-            due.is(call, x.addInner(3, row[0], row[1]), HierShaper.OK);
-            due.is("tokens(3) after " + call, x.tokens(3), 3L * row[2]);
-            due.is("ctokens(3) after " + call, x.ctokens(3), 3L * row[3]);
+            clamped(row[0], row[1], row[2], row[3]);
         }
     }
 
-    /** The clamped rate is also what a tick adds. */
-    private static void clampedRatesRefill() {
-        HierShaper x = new HierShaper(65536, 8, 16);
-        x.addInner(1, -7, 3);
-        x.addLeaf(2, 1, 65536, 65536);
-        Sends.offer(x, 2, 100);
-        due.is("run(1)", x.run(1), 1);
-        due.is("tokens(1)", x.tokens(1), 16 - 1600);
-        due.is("ctokens(1)", x.ctokens(1), 48 - 1600);
-        x.run(10);
-        due.is("tokens(1) after 10 ticks", x.tokens(1), 16 - 1600 + 10);
-        due.is("ctokens(1) after 10 ticks", x.ctokens(1), 48 - 1600 + 30);
+    /** The r of the ceil is "the clamped rate", not the rate that was given. */
+    private static void ceilIsClampedToTheClampedRate() {
+        clamped(0, 0, 1, 1);
+        clamped(-5, -9, 1, 1);
+        clamped(-9, -5, 1, 1);
+        clamped(Integer.MIN_VALUE, Integer.MIN_VALUE, 1, 1);
+        clamped(0, 5, 1, 5);
+        clamped(65537, 5, 65536, 65536);
+        clamped(65538, 65537, 65536, 65536);
+        clamped(Integer.MAX_VALUE, Integer.MIN_VALUE, 65536, 65536);
+        clamped(Integer.MAX_VALUE, Integer.MAX_VALUE, 65536, 65536);
     }
 
-    private static void refusedCallsChangeNothing() {
-        HierShaper x = Shapers.busy();
-        long[] before = View.of(x);
-        int[] badIds = {0, -1, -2, 16, 17, 32, Integer.MIN_VALUE, Integer.MAX_VALUE};
-        for (int id : badIds) {
-            due.is("addInner(" + id + ", 50, 60)", x.addInner(id, 50, 60), HierShaper.BAD_ID);
-            due.sameView("after addInner(" + id + ", 50, 60)", View.of(x), before);
+    /** The clamped rate and ceil are also what a tick adds: at the lower ends, */
+    private static void theLeastRatesRefill() {
+        int[][] rateCeilAndDue = {{1, 1, 1, 1}, {0, 0, 1, 1}, {-7, 3, 1, 3}, {2, 1, 2, 2}, {2, 3, 2, 3}};
+        for (int[] row : rateCeilAndDue) {
+            HierShaper x = Shapers.oneInner(row[0], row[1], 16);
+            Sends.offer(x, 2, 100);
+            due.is("run(1)", x.run(1), 1);
+            due.buckets("sent", x, 1, 16 * row[2] - 1600, 16 * row[3] - 1600);
+            x.run(10);
+            due.buckets("10 ticks later", x, 1, 26 * row[2] - 1600, 26 * row[3] - 1600);
         }
-        int[] usedIds = {1, 7, 2, 15};
-        for (int id : usedIds) {
-            due.is("addInner(" + id + ", 50, 60)", x.addInner(id, 50, 60), HierShaper.EXISTS);
-            due.sameView("after addInner(" + id + ", 50, 60)", View.of(x), before);
-        }
-        HierShaper untouched = Shapers.busy();
-        due.is("run(5) after refused calls", x.run(5), untouched.run(5));
-        due.sameView("5 ticks after refused calls", View.of(x), View.of(untouched));
     }
 
-    private static void theRestStaysAsItWas() {
-        HierShaper x = Shapers.busy();
-        HierShaper without = Shapers.busy();
-        due.is("addInner(3, 50, 60)", x.addInner(3, 50, 60), HierShaper.OK);
-        due.is("tokens(3), added after a tick", x.tokens(3), 100);
-        due.is("ctokens(3), added after a tick", x.ctokens(3), 120);
-        for (int id = 0; id <= 15; id++) {
-            if (id != 3) {
-                sameClass(id, x, without);
-            }
+    /** and at the upper ends, where it takes the greatest load to leave room for a whole refill. */
+    private static void theGreatestRatesRefill() {
+        int[][] rateCeilAndDue = {
+            {65535, 65536, 65535, 65536}, {65535, 65535, 65535, 65535}, {65536, 65536, 65536, 65536},
+            {65537, 65537, 65536, 65536}, {65535, 65537, 65535, 65536}, {Integer.MAX_VALUE, 0, 65536, 65536}
+        };
+        for (int[] row : rateCeilAndDue) {
+            HierShaper x = Shapers.loaded(65536, row[0], row[1]);
+            due.is("run(1)", x.run(1), Shapers.LOAD_PACKETS);
+            long spent = Shapers.LOAD_TOKENS;
+            due.buckets("sent", x, 1, 16L * row[2] - spent, 16L * row[3] - spent);
+            x.run(1);
+            due.buckets("a tick later", x, 1, 17L * row[2] - spent, 17L * row[3] - spent);
         }
-        due.is("run(6)", x.run(6), without.run(6));
-        due.is("sendCount()", x.sendCount(), without.sendCount());
-        due.reads("the log", Sends.last(x, x.sendCount()), Sends.last(without, x.sendCount()));
     }
 
-    private static void sameClass(int id, HierShaper x, HierShaper other) {
-        due.is("kind(" + id + ")", x.kind(id), other.kind(id));
-        due.is("tokens(" + id + ")", x.tokens(id), other.tokens(id));
-        due.is("ctokens(" + id + ")", x.ctokens(id), other.ctokens(id));
-        due.is("sentBytes(" + id + ")", x.sentBytes(id), other.sentBytes(id));
-        due.is("droppedBytes(" + id + ")", x.droppedBytes(id), other.droppedBytes(id));
-        due.is("queuedBytes(" + id + ")", x.queuedBytes(id), other.queuedBytes(id));
-        due.is("deficit(" + id + ", 0)", x.deficit(id, 0), other.deficit(id, 0));
+    /** "filled to capacity when c is added": late in a run as well. */
+    private static void aLateClassStartsFull() {
+        HierShaper x = Family.starved();
+        due.is("addInner(4, 50, 60)", x.addInner(4, 50, 60), HierShaper.OK);
+        due.buckets("added late", x, 4, 100, 120);
+        due.is("sentBytes(4), added late", x.sentBytes(4), 0);
+        due.is("kind(4), added late", x.kind(4), HierShaper.KIND_INNER);
+    }
+
+    /** "All other classes, all queues, deficits and pointers, the log and sendCount are unchanged." */
+    private static void theRestIsUnchanged() {
+        for (int id : new int[] {4, 12}) {
+            Twins.adds(due, "addInner(" + id + ", 50, 60)", id, x -> x.addInner(id, 50, 60));
+        }
     }
 
     public static void main(String[] args) {
-        everyIdCanBeAdded();
-        ratesAreClamped();
-        clampedRatesRefill();
-        refusedCallsChangeNothing();
-        theRestStaysAsItWas();
+        idsFromOneToFifteenAreTaken();
+        otherIdsAreBad();
+        theRootIsABadIdBeforeItExists();
+        usedIdsExist();
+        theEndsOfTheRangeExistOnceAdded();
+        rateIsClamped();
+        ceilIsClamped();
+        ceilIsClampedToTheClampedRate();
+        theLeastRatesRefill();
+        theGreatestRatesRefill();
+        aLateClassStartsFull();
+        theRestIsUnchanged();
         due.end();
     }
 }

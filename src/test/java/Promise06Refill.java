@@ -1,36 +1,134 @@
-/** Promise 6, the ticks and their refill: buckets grow by the rate and end at the capacity. */
+import java.util.List;
+import java.util.function.Supplier;
+
+/** Promise 6, ticks and refill. Above each test stand the words of the document it holds the program to. */
 public final class Promise06Refill {
     private static final Due due = new Due("Promise06Refill");
 
-    /** Leaf 2 sends 80 tokens' worth and then every bucket climbs back by its own rate. */
-    private static void bucketsGrowToTheirCapacity() {
+    /** "If ticks < 1: answers 0 and changes nothing." */
+    private static void ticksBelowOneDoNothing() {
+        for (int ticks : new int[] {0, -1, -2, -63, -64, -65, Integer.MIN_VALUE, Integer.MIN_VALUE + 1}) {
+            Twins.refused(due, "run(" + ticks + ")", 0, x -> x.run(ticks));
+        }
+    }
+
+    /** The least number of ticks that does something is 1. */
+    private static void oneTickIsOne() {
+        HierShaper x = Shapers.oneInner(1, 65536, 16);
+        Sends.offer(x, 2, 255);
+        due.is("run(1)", x.run(1), 1);
+        due.is("tokens(1)", x.tokens(1), 16 - 4080);
+        due.is("run(1)", x.run(1), 0);
+        due.is("tokens(1)", x.tokens(1), 16 - 4080 + 1);
+    }
+
+    /** "If ticks > 64: it is taken as 64." */
+    private static void ticksAbove64Are64() {
+        int[][] givenAndDue = {
+            {1, 1}, {2, 2}, {62, 62}, {63, 63}, {64, 64},
+            {65, 64}, {66, 64}, {127, 64}, {128, 64}, {129, 64}, {65536, 64}, {Integer.MAX_VALUE, 64}
+        };
+        for (int[] row : givenAndDue) {
+            HierShaper x = Shapers.oneInner(1, 65536, 16);
+            Sends.offer(x, 2, 255);
+            x.run(1);
+            due.is("run(" + row[0] + ")", x.run(row[0]), 0);
+            due.is("tokens(1) after run(" + row[0] + ")", x.tokens(1), 16 - 4080 + row[1]);
+        }
+    }
+
+    /** "For each tick, in turn": a call of n ticks is n calls of one tick. */
+    private static void ticksComeInTurn() {
+        List<Supplier<HierShaper>> states = List.of(Family::rested, Family::worn, Family::starved);
+        for (Supplier<HierShaper> state : states) {
+            for (int ticks : new int[] {1, 2, 3, 9, 63, 64}) {
+                HierShaper many = state.get();
+                HierShaper single = state.get();
+                int sent = 0;
+                for (int i = 0; i < ticks; i++) {
+                    sent += single.run(1);
+                }
+                due.is("run(" + ticks + ")", many.run(ticks), sent);
+                due.sameView("after " + ticks + " ticks", View.of(many), View.of(single));
+            }
+        }
+    }
+
+    /** 160 tokens are spent of each bucket of 2 * rate: one less, just as much and one more than a refill. */
+    private static final int[][] RATE_AND_REFILLED = {{159, 317}, {160, 320}, {161, 322}};
+
+    /** "root: B = min(B + linkRate, linkRate*depth)" */
+    private static void theRootIsRefilledToItsCapacity() {
+        for (int[] row : RATE_AND_REFILLED) {
+            HierShaper x = Shapers.oneLink(row[0], 2);
+            Sends.offer(x, 2, 10);
+            due.is("run(1)", x.run(1), 1);
+            due.buckets("spent", x, 0, 2 * row[0] - 160, 2 * row[0] - 160);
+            x.run(1);
+            due.buckets("refilled at link rate " + row[0], x, 0, row[1], row[1]);
+            x.run(1);
+            due.buckets("full at link rate " + row[0], x, 0, 2 * row[0], 2 * row[0]);
+        }
+    }
+
+    /** "other classes: T = min(T + rate, rate*depth)" */
+    private static void rateBucketsAreRefilledToTheirCapacity() {
+        for (int[] row : RATE_AND_REFILLED) {
+            HierShaper leaf = Shapers.oneLeaf(row[0], 1000, 2);
+            refilledTo("rate bucket of a leaf", leaf, 2, row[1], 2000, 2 * row[0]);
+            HierShaper inner = Shapers.oneInner(row[0], 1000, 2);
+            refilledTo("rate bucket of an inner class", inner, 1, row[1], 2000, 2 * row[0]);
+        }
+    }
+
+    /** "then CT = min(CT + ceil, ceil*depth)" */
+    private static void ceilBucketsAreRefilledToTheirCapacity() {
+        for (int[] row : RATE_AND_REFILLED) {
+            HierShaper leaf = Shapers.oneLeaf(100, row[0], 2);
+            refilledTo("ceil bucket of a leaf", leaf, 2, 200 - 160 + 100, row[1], 200);
+            HierShaper inner = Shapers.oneInner(100, row[0], 2);
+            refilledTo("ceil bucket of an inner class", inner, 1, 200 - 160 + 100, row[1], 200);
+        }
+    }
+
+    private static void refilledTo(String what, HierShaper x, int id, long tokens, long ctokens, long fullTokens) {
+        long fullCtokens = x.ctokens(id);
+        Sends.offer(x, 2, 10);
+        due.is("run(1)", x.run(1), 1);
+        due.buckets(what + ", spent", x, id, fullTokens - 160, fullCtokens - 160);
+        x.run(1);
+        due.buckets(what + ", refilled", x, id, tokens, ctokens);
+        x.run(2);
+        due.buckets(what + ", full", x, id, fullTokens, fullCtokens);
+    }
+
+    /** A full bucket stays full, in the first tick already. */
+    private static void fullBucketsStayFull() {
+        HierShaper x = Family.rested();
+        long[] before = View.of(x);
+        for (int ticks = 1; ticks <= 64; ticks += 21) {
+            due.is("run(" + ticks + ")", x.run(ticks), 0);
+            due.sameView("after idle ticks", View.of(x), before);
+        }
+    }
+
+    /** "Buckets have no lower bound; they may become negative": each climbs out of debt by its own rate. */
+    private static void debtsArePaidTickByTick() {
         HierShaper x = new HierShaper(100, 8, 3);
         x.addInner(1, 10, 50);
         x.addLeaf(2, 1, 7, 20);
-        x.enqueue(2, 5);
+        Sends.offer(x, 2, 200);
         due.is("run(1)", x.run(1), 1);
-        due.buckets("tick 1", x, 0, 300 - 80, 300 - 80);
-        due.buckets("tick 1", x, 1, 30 - 80, 150 - 80);
-        due.buckets("tick 1", x, 2, 21 - 80, 60 - 80);
-        due.is("run(1)", x.run(1), 0);
-        due.buckets("tick 2", x, 0, 300, 300);
-        due.buckets("tick 2", x, 1, -40, 120);
-        due.buckets("tick 2", x, 2, -52, 0);
-        due.is("run(1)", x.run(1), 0);
-        due.buckets("tick 3", x, 1, -30, 150);
-        due.buckets("tick 3", x, 2, -45, 20);
-        due.is("run(2)", x.run(2), 0);
-        due.buckets("tick 5", x, 1, -10, 150);
-        due.buckets("tick 5", x, 2, -31, 60);
-        due.is("run(4)", x.run(4), 0);
-        due.buckets("tick 9", x, 0, 300, 300);
-        due.buckets("tick 9", x, 1, 30, 150);
-        due.buckets("tick 9", x, 2, -3, 60);
-        due.is("run(4)", x.run(4), 0);
-        due.buckets("tick 13", x, 2, 21, 60);
+        for (int tick = 0; tick <= 70; tick++) {
+            due.buckets(tick + " ticks later", x, 0, Math.min(-2900 + 100 * tick, 300),
+                    Math.min(-2900 + 100 * tick, 300));
+            due.buckets(tick + " ticks later", x, 1, -3170 + 10 * tick, Math.min(-3050 + 50 * tick, 150));
+            due.buckets(tick + " ticks later", x, 2, -3179 + 7 * tick, -3140 + 20 * tick);
+            x.run(1);
+        }
     }
 
-    /** Every id is refilled, the first and the last as well, each by its own rates. */
+    /** "For every existing class, in id order 0..15": the first and the last as well, each by its own rates. */
     private static void everyClassIsRefilled() {
         for (int inner = 1; inner <= 15; inner += 7) {
             HierShaper x = new HierShaper(65536, 8, 16);
@@ -53,7 +151,18 @@ public final class Promise06Refill {
         }
     }
 
-    /** Each tick refills before it sends: a bucket at exactly 0 after the refill sends again. */
+    /** A class that does not exist yet gathers nothing: it starts at its capacity whenever it is added. */
+    private static void missingClassesAreNotRefilled() {
+        HierShaper x = new HierShaper(100, 8, 3);
+        x.run(64);
+        for (int id = 1; id <= 15; id++) {
+            due.buckets("missing", x, id, 0, 0);
+        }
+        x.addInner(15, 10, 50);
+        due.buckets("added after 64 ticks", x, 15, 30, 150);
+    }
+
+    /** (a) before (b), in every tick: a bucket that the refill brings to exactly 0 sends in the same tick. */
     private static void refillComesBeforeSending() {
         HierShaper x = new HierShaper(100, 8, 3);
         x.addInner(1, 10, 50);
@@ -70,42 +179,13 @@ public final class Promise06Refill {
         due.buckets("tick 3", x, 2, -45, 4 - 16);
     }
 
-    /** A call of n ticks is n calls of one tick. */
-    private static void ticksAddUp() {
-        HierShaper many = Shapers.busy();
-        HierShaper single = Shapers.busy();
-        int sent = 0;
-        for (int i = 0; i < 9; i++) {
-            sent += single.run(1);
-        }
-        due.is("run(9)", many.run(9), sent);
-        due.holds("packets are sent in those ticks", sent > 1);
-        due.sameView("after 9 ticks", View.of(many), View.of(single));
-    }
-
-    private static void ticksAreLimited() {
-        int[][] givenAndDue = {
-            {1, 1}, {2, 2}, {63, 63}, {64, 64}, {65, 64}, {128, 64}, {1000, 64}, {Integer.MAX_VALUE, 64},
-            {0, 0}, {-1, 0}, {-64, 0}, {Integer.MIN_VALUE, 0}
-        };
-        for (int[] row : givenAndDue) {
-            HierShaper x = new HierShaper(65536, 8, 16);
-            x.addInner(1, 1, 65536);
-            x.addLeaf(2, 1, 65536, 65536);
-            x.enqueue(2, 255);
-            due.is("run(1)", x.run(1), 1);
-            due.is("tokens(1)", x.tokens(1), 16 - 4080);
-            due.is("run(" + row[0] + ")", x.run(row[0]), 0);
-            due.is("tokens(1) after run(" + row[0] + ")", x.tokens(1), 16 - 4080 + row[1]);
-        }
-    }
-
-    /** One packet a tick: the answer of run tells how many ticks passed. */
+    /** "Answers the number of packets sent during this call (0 if none)." */
     private static void theAnswerCountsTheCall() {
-        HierShaper x = new HierShaper(16, 8, 1);
-        x.addInner(1, 65536, 65536);
-        for (int leaf = 2; leaf <= 12; leaf++) {
+        HierShaper x = Shapers.oneLink(16, 1);
+        for (int leaf = 3; leaf <= 12; leaf++) {
             x.addLeaf(leaf, 1, 65536, 65536);
+        }
+        for (int leaf = 2; leaf <= 12; leaf++) {
             Sends.offerMany(x, leaf, 8, 1);
         }
         due.is("run(1), a full bucket and the packet that overdraws it", x.run(1), 2);
@@ -119,24 +199,30 @@ public final class Promise06Refill {
         due.is("run(64), none left", x.run(64), 0);
     }
 
-    private static void noTicksChangeNothing() {
-        HierShaper x = Shapers.busy();
-        long[] before = View.of(x);
-        int[] noTicks = {0, -1, -2, -64, Integer.MIN_VALUE};
-        for (int ticks : noTicks) {
-            due.is("run(" + ticks + ")", x.run(ticks), 0);
-            due.sameView("after run(" + ticks + ")", View.of(x), before);
-        }
+    /** The greatest answer of one call: all that 14 full queues hold. */
+    private static void theGreatestAnswer() {
+        HierShaper inOneTick = Shapers.loaded(65536, 65536, 65536);
+        due.is("run(1)", inOneTick.run(1), Shapers.LOAD_PACKETS);
+        HierShaper overTicks = Shapers.loaded(16000, 65536, 65536);
+        due.is("run(64)", overTicks.run(64), Shapers.LOAD_PACKETS);
+        due.is("run(64), none left", overTicks.run(64), 0);
     }
 
     public static void main(String[] args) {
-        bucketsGrowToTheirCapacity();
+        ticksBelowOneDoNothing();
+        oneTickIsOne();
+        ticksAbove64Are64();
+        ticksComeInTurn();
+        theRootIsRefilledToItsCapacity();
+        rateBucketsAreRefilledToTheirCapacity();
+        ceilBucketsAreRefilledToTheirCapacity();
+        fullBucketsStayFull();
+        debtsArePaidTickByTick();
         everyClassIsRefilled();
+        missingClassesAreNotRefilled();
         refillComesBeforeSending();
-        ticksAddUp();
-        ticksAreLimited();
         theAnswerCountsTheCall();
-        noTicksChangeNothing();
+        theGreatestAnswer();
         due.end();
     }
 }

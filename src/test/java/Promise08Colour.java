@@ -1,65 +1,84 @@
-/** Promise 8: the colour of a class. */
+/** Promise 8: the colour of a class. Above each test stand the words it holds the program to. */
 public final class Promise08Colour {
     private static final Due due = new Due("Promise08Colour");
 
-    private static void missingClassesHaveNone() {
-        HierShaper x = Shapers.wide(2, 15);
-        int[] missing = {3, 14, -1, -2, 16, 17, 32, Integer.MIN_VALUE, Integer.MAX_VALUE};
-        for (int id : missing) {
-            due.is("colour(" + id + ")", x.colour(id), HierShaper.NO_CLASS);
-        }
-        int[] present = {0, 1, 2, 15};
-        for (int id : present) {
-            due.is("colour(" + id + ") of a full class", x.colour(id), HierShaper.GREEN);
-        }
+    private static void spent(String what, HierShaper x, int id, long tokens, long ctokens, int colour) {
+        Sends.offer(x, 2, 10);
+        due.is("run(1)", x.run(1), 1);
+        due.buckets(what, x, id, tokens, ctokens);
+        due.is(what + ": colour(" + id + ") at " + tokens + "/" + ctokens, x.colour(id), colour);
     }
 
-    /** A packet of s bytes leaves the rate bucket at 160-16s and the ceil bucket at 320-16s. */
-    private static void leafAndInner() {
-        int[][] sizeAndDue = {
-            {1, HierShaper.GREEN}, {9, HierShaper.GREEN}, {10, HierShaper.GREEN}, {11, HierShaper.YELLOW},
-            {19, HierShaper.YELLOW}, {20, HierShaper.YELLOW}, {21, HierShaper.RED}, {255, HierShaper.RED}
-        };
-        for (int[] row : sizeAndDue) {
-            HierShaper leafOnly = new HierShaper(65536, 8, 1);
-            leafOnly.addInner(1, 65536, 65536);
-            leafOnly.addLeaf(2, 1, 160, 320);
-            leafOnly.enqueue(2, row[0]);
-            leafOnly.run(1);
-            due.is("colour(2) after " + row[0] + " bytes", leafOnly.colour(2), row[1]);
-            due.is("colour(1), wide", leafOnly.colour(1), HierShaper.GREEN);
-
-            HierShaper innerOnly = new HierShaper(65536, 8, 1);
-            innerOnly.addInner(1, 160, 320);
-            innerOnly.addLeaf(2, 1, 65536, 65536);
-            innerOnly.enqueue(2, row[0]);
-            innerOnly.run(1);
-            due.is("colour(1) after " + row[0] + " bytes", innerOnly.colour(1), row[1]);
-            due.is("colour(2), wide", innerOnly.colour(2), HierShaper.GREEN);
-        }
+    /** "Inner or leaf class: RED if CT < 0": at -1. */
+    private static void redBelowZero() {
+        spent("leaf", Shapers.oneLeaf(159, 159, 1), 2, -1, -1, HierShaper.RED);
+        spent("leaf", Shapers.oneLeaf(1, 159, 1), 2, -159, -1, HierShaper.RED);
+        spent("inner class", Shapers.oneInner(159, 159, 1), 1, -1, -1, HierShaper.RED);
+        spent("inner class", Shapers.oneInner(1, 159, 1), 1, -159, -1, HierShaper.RED);
     }
 
-    private static void rootIsGreenOrRed() {
-        int[][] sizeAndDue = {
-            {1, HierShaper.GREEN}, {19, HierShaper.GREEN}, {20, HierShaper.GREEN}, {21, HierShaper.RED},
-            {255, HierShaper.RED}
-        };
-        for (int[] row : sizeAndDue) {
-            HierShaper x = new HierShaper(320, 8, 1);
-            x.addInner(1, 65536, 65536);
-            x.addLeaf(2, 1, 65536, 65536);
-            x.enqueue(2, row[0]);
+    /** A ceil bucket at 0 or 1 is not red. */
+    private static void notRedFromZeroOn() {
+        spent("leaf", Shapers.oneLeaf(1, 160, 1), 2, -159, 0, HierShaper.YELLOW);
+        spent("leaf", Shapers.oneLeaf(1, 161, 1), 2, -159, 1, HierShaper.YELLOW);
+        spent("inner class", Shapers.oneInner(1, 160, 1), 1, -159, 0, HierShaper.YELLOW);
+        spent("inner class", Shapers.oneInner(1, 161, 1), 1, -159, 1, HierShaper.YELLOW);
+    }
+
+    /** "else GREEN if T >= 0": at 0, and at 1, with the ceil bucket no higher or far above. */
+    private static void greenFromZeroOn() {
+        spent("leaf", Shapers.oneLeaf(160, 160, 1), 2, 0, 0, HierShaper.GREEN);
+        spent("leaf", Shapers.oneLeaf(160, 65536, 1), 2, 0, 65376, HierShaper.GREEN);
+        spent("leaf", Shapers.oneLeaf(161, 161, 1), 2, 1, 1, HierShaper.GREEN);
+        spent("inner class", Shapers.oneInner(160, 160, 1), 1, 0, 0, HierShaper.GREEN);
+        spent("inner class", Shapers.oneInner(160, 65536, 1), 1, 0, 65376, HierShaper.GREEN);
+        spent("inner class", Shapers.oneInner(161, 161, 1), 1, 1, 1, HierShaper.GREEN);
+    }
+
+    /** "else YELLOW": at -1. */
+    private static void yellowBelowZero() {
+        spent("leaf", Shapers.oneLeaf(159, 160, 1), 2, -1, 0, HierShaper.YELLOW);
+        spent("leaf", Shapers.oneLeaf(159, 65536, 1), 2, -1, 65376, HierShaper.YELLOW);
+        spent("inner class", Shapers.oneInner(159, 160, 1), 1, -1, 0, HierShaper.YELLOW);
+        spent("inner class", Shapers.oneInner(159, 65536, 1), 1, -1, 65376, HierShaper.YELLOW);
+    }
+
+    /** "RED if CT < 0" comes first: a class that has borrowed is red even with its rate bucket at 0 or more. */
+    private static void redComesBeforeGreen() {
+        HierShaper leaf = Shapers.borrowingLeaf();
+        due.buckets("a leaf", leaf, 2, 0, -4048);
+        due.is("colour(2)", leaf.colour(2), HierShaper.RED);
+        HierShaper inner = Shapers.borrowingInner();
+        due.buckets("an inner class", inner, 1, 0, -4048);
+        due.is("colour(1)", inner.colour(1), HierShaper.RED);
+        leaf.run(1);
+        inner.run(1);
+        due.buckets("a leaf", leaf, 2, 16, -4016);
+        due.is("colour(2)", leaf.colour(2), HierShaper.RED);
+        due.buckets("an inner class", inner, 1, 16, -4016);
+        due.is("colour(1)", inner.colour(1), HierShaper.RED);
+    }
+
+    /** "Root: GREEN if B >= 0; else RED.", and "The root is only ever `GREEN` or `RED`." */
+    private static void theRootIsGreenOrRed() {
+        spent("root", Shapers.oneLink(161, 1), 0, 1, 1, HierShaper.GREEN);
+        spent("root", Shapers.oneLink(160, 1), 0, 0, 0, HierShaper.GREEN);
+        spent("root", Shapers.oneLink(159, 1), 0, -1, -1, HierShaper.RED);
+        HierShaper x = Shapers.oneLink(16, 2);
+        Sends.offer(x, 2, 200);
+        x.run(1);
+        for (int tick = 0; tick < 250; tick++) {
+            due.is("colour(0) at " + x.tokens(0), x.colour(0),
+                    x.tokens(0) < 0 ? HierShaper.RED : HierShaper.GREEN);
             x.run(1);
-            due.is("colour(0) after " + row[0] + " bytes", x.colour(0), row[1]);
         }
+        due.is("colour(0) in the end", x.colour(0), HierShaper.GREEN);
     }
 
-    /** In debt on both buckets a class is red; the ceil bucket recovers first, then the rate bucket. */
+    /** "It is computed from the present buckets whenever it is needed.": the ceil bucket recovers first. */
     private static void coloursFollowTheBuckets() {
-        HierShaper x = new HierShaper(65536, 8, 1);
-        x.addInner(1, 65536, 65536);
-        x.addLeaf(2, 1, 16, 32);
-        x.enqueue(2, 5);
+        HierShaper x = Shapers.oneLeaf(16, 32, 1);
+        Sends.offer(x, 2, 5);
         x.run(1);
         int[] colours = {
             HierShaper.RED, HierShaper.RED, HierShaper.YELLOW, HierShaper.YELLOW, HierShaper.GREEN, HierShaper.GREEN
@@ -72,41 +91,45 @@ public final class Promise08Colour {
         }
     }
 
-    /** A debt of a single token counts, and so does a bucket of exactly 0, the other way. */
-    private static void theEdgeIsOneToken() {
-        for (int debt = 0; debt <= 1; debt++) {
-            int rate = 160 - debt;
-            HierShaper x = new HierShaper(rate, 8, 1);
-            x.addInner(1, rate, 65536);
-            x.addInner(2, 65536, 65536);
-            x.addLeaf(3, 1, 65536, 65536);
-            x.addLeaf(4, 2, rate, rate);
-            x.enqueue(3, 10);
-            x.run(1);
-            due.is("colour(0) at " + -debt, x.colour(0), debt == 0 ? HierShaper.GREEN : HierShaper.RED);
-            due.is("colour(1) at " + -debt, x.colour(1), debt == 0 ? HierShaper.GREEN : HierShaper.YELLOW);
-            x.run(1);
-            x.enqueue(4, 10);
-            x.run(1);
-            due.is("colour(4) at " + -debt, x.colour(4), debt == 0 ? HierShaper.GREEN : HierShaper.RED);
+    /** A new class is green, at the ends of all ranges. */
+    private static void fullClassesAreGreen() {
+        for (int rate : new int[] {1, 65536}) {
+            for (int depth : new int[] {1, 16}) {
+                HierShaper x = Shapers.oneLeaf(rate, rate, depth);
+                for (int id = 0; id <= 2; id++) {
+                    due.is("colour(" + id + ")", x.colour(id), HierShaper.GREEN);
+                }
+            }
         }
     }
 
-    private static void askingChangesNothing() {
-        HierShaper x = Shapers.busy();
-        long[] before = View.of(x);
-        for (int id = -1; id <= 16; id++) {
-            x.colour(id);
+    /** "or `NO_CLASS` if the class does not exist (this includes any id outside 0..15)" */
+    private static void missingClassesHaveNone() {
+        HierShaper x = Family.worn();
+        for (int id : Family.NO_CLASSES) {
+            due.is("colour(" + id + ")", x.colour(id), HierShaper.NO_CLASS);
         }
-        due.sameView("after asking", View.of(x), before);
+    }
+
+    /** "It changes nothing." */
+    private static void askingChangesNothing() {
+        Twins.unchangedBy(due, "colour", x -> {
+            for (int id : Edges.ASKED_IDS) {
+                x.colour(id);
+            }
+        });
     }
 
     public static void main(String[] args) {
-        missingClassesHaveNone();
-        leafAndInner();
-        rootIsGreenOrRed();
+        redBelowZero();
+        notRedFromZeroOn();
+        greenFromZeroOn();
+        yellowBelowZero();
+        redComesBeforeGreen();
+        theRootIsGreenOrRed();
         coloursFollowTheBuckets();
-        theEdgeIsOneToken();
+        fullClassesAreGreen();
+        missingClassesHaveNone();
         askingChangesNothing();
         due.end();
     }

@@ -1,4 +1,4 @@
-/** Promise 12: queue contents. */
+/** Promise 12: queue contents. Above each test stand the words of the document it holds the program to. */
 public final class Promise12Queues {
     private static final Due due = new Due("Promise12Queues");
     /** The greatest packet is 4080 tokens and the least link rate is 16 a tick. */
@@ -9,6 +9,10 @@ public final class Promise12Queues {
         due.is(when + ": queuedBytes(" + id + ")", x.queuedBytes(id), bytes);
     }
 
+    /**
+     * "the number of packets now in the queue of leaf id, a value in 0..queueLimit" and "the sum of the sizes
+     * of the packets now in that queue": up from 0 to each limit and down again.
+     */
     private static void queuesFillAndEmpty() {
         for (int limit = 1; limit <= 8; limit++) {
             HierShaper x = new HierShaper(16, limit, 1);
@@ -33,11 +37,21 @@ public final class Promise12Queues {
         }
     }
 
+    /** The least and the greatest that a queue can hold. */
+    private static void theLeastAndTheGreatestQueue() {
+        HierShaper x = Shapers.wide(2, 15);
+        Sends.offer(x, 2, 1);
+        queue("one byte", x, 2, 1, 1);
+        Sends.offerMany(x, 15, 9, 255);
+        queue("eight of the greatest packets", x, 15, 8, 2040);
+        x.run(1);
+        queue("sent", x, 2, 0, 0);
+        queue("sent", x, 15, 0, 0);
+    }
+
     /** Sends and arrivals in turn, so that the oldest packet stands at every place of the queue. */
     private static void queuesMoveOn() {
-        HierShaper x = new HierShaper(16, 8, 1);
-        x.addInner(1, 65536, 65536);
-        x.addLeaf(2, 1, 65536, 65536);
+        HierShaper x = Shapers.oneLink(16, 1);
         long bytes = 0;
         for (int size = 11; size <= 17; size++) {
             x.enqueue(2, size);
@@ -56,20 +70,30 @@ public final class Promise12Queues {
         }
     }
 
+    /** "Each answers 0 if id is not an existing leaf." */
     private static void othersHaveNoQueue() {
-        HierShaper x = Shapers.busy();
-        long[] before = View.of(x);
-        int[] notLeaves = {0, 1, 7, 3, 14, -1, -2, 16, 17, 18, 31, 32, Integer.MIN_VALUE, Integer.MAX_VALUE};
-        for (int id : notLeaves) {
+        HierShaper x = Family.starved();
+        for (int id : Family.NOT_LEAVES) {
             queue("not a leaf", x, id, 0, 0);
         }
-        due.sameView("after asking", View.of(x), before);
+    }
+
+    /** "Neither changes anything." */
+    private static void askingChangesNothing() {
+        Twins.unchangedBy(due, "queueLength and queuedBytes", x -> {
+            for (int id : Edges.ASKED_IDS) {
+                x.queueLength(id);
+                x.queuedBytes(id);
+            }
+        });
     }
 
     public static void main(String[] args) {
         queuesFillAndEmpty();
+        theLeastAndTheGreatestQueue();
         queuesMoveOn();
         othersHaveNoQueue();
+        askingChangesNothing();
         due.end();
     }
 }

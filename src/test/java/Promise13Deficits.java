@@ -1,8 +1,8 @@
-/** Promise 13: deficits. */
+/** Promise 13: deficits. Above each test stand the words of the document it holds the program to. */
 public final class Promise13Deficits {
     private static final Due due = new Due("Promise13Deficits");
 
-    /** One packet at each level, of its own size, shows in the deficit of that level alone. */
+    /** "`deficit(int id, int level)` answers D(id, level)": one packet at each level shows in that level alone. */
     private static void everyLevelHasItsOwn() {
         for (int leaf = 2; leaf <= 15; leaf++) {
             HierShaper x = new HierShaper(1000, 8, 1);
@@ -30,7 +30,34 @@ public final class Promise13Deficits {
         due.is("deficit(4, 0)", x.deficit(4, 0), 0);
     }
 
-    /** The least quantum, 256, is above the greatest packet, so a real deficit ends at 1 or more. */
+    /** "Answers -1 if id is not an existing leaf", at real levels and at others. */
+    private static void othersHaveNone() {
+        HierShaper x = Family.worn();
+        for (int id : Family.NOT_LEAVES) {
+            for (int level = -1; level <= 3; level++) {
+                due.is("deficit(" + id + ", " + level + ")", x.deficit(id, level), -1);
+            }
+        }
+    }
+
+    /** "or if level is outside 0..2": next to the ends, and where other leaves' deficits might stand. */
+    private static void otherLevelsHaveNone() {
+        HierShaper x = Family.worn();
+        int[] wrongLevels = {
+            -1, 3, -2, 4, -3, 5, 6, 15, 16, 256, 257, -256, 65536, Integer.MIN_VALUE, Integer.MIN_VALUE + 1,
+            Integer.MAX_VALUE
+        };
+        for (int leaf : Family.LEAVES) {
+            for (int level : wrongLevels) {
+                due.is("deficit(" + leaf + ", " + level + ")", x.deficit(leaf, level), -1);
+            }
+            for (int level = 0; level <= 2; level++) {
+                due.holds("deficit(" + leaf + ", " + level + ") is a real one", x.deficit(leaf, level) >= 0);
+            }
+        }
+    }
+
+    /** "A real deficit is never negative.": the least quantum, 256, is above the greatest packet, 255. */
     private static void neverBelowZero() {
         HierShaper x = Shapers.wide(2);
         int want = 0;
@@ -44,28 +71,43 @@ public final class Promise13Deficits {
         }
     }
 
-    private static void wrongIdsAndLevels() {
-        HierShaper x = Shapers.busy();
-        long[] before = View.of(x);
-        int[] wrongLevels = {-1, -2, -3, 3, 4, 16, Integer.MIN_VALUE, Integer.MAX_VALUE};
-        for (int level : wrongLevels) {
-            due.is("deficit(2, " + level + ")", x.deficit(2, level), -1);
-            due.is("deficit(15, " + level + ")", x.deficit(15, level), -1);
+    /** The least and the greatest deficits that a turn can end with, at every level. */
+    private static void theLeastAndTheGreatest() {
+        for (int level = 0; level <= 2; level++) {
+            HierShaper least = Shapers.atLevel(level, 2);
+            Sends.offer(least, 2, 255);
+            least.run(1);
+            due.is("deficit(2, " + level + "), overdrawn by 255", least.deficit(2, level), 1);
+            Sends.offer(least, 2, 1);
+            least.run(1);
+            due.is("deficit(2, " + level + "), just spent", least.deficit(2, level), 0);
+            HierShaper greatest = Shapers.atLevel(level, 2);
+            greatest.setLeafSched(2, 0, 2048);
+            Sends.offer(greatest, 2, 1);
+            greatest.run(1);
+            due.is("deficit(2, " + level + "), overdrawn by 1", greatest.deficit(2, level), 2047);
         }
-        int[] notLeaves = {0, 1, 7, 3, 14, -1, -2, 16, 17, 18, 32, Integer.MIN_VALUE, Integer.MAX_VALUE};
-        for (int id : notLeaves) {
-            for (int level = -1; level <= 3; level++) {
-                due.is("deficit(" + id + ", " + level + ")", x.deficit(id, level), -1);
+    }
+
+    /** "It changes nothing." */
+    private static void askingChangesNothing() {
+        Twins.unchangedBy(due, "deficit", x -> {
+            for (int id : Edges.ASKED_IDS) {
+                for (int level = -1; level <= 3; level++) {
+                    x.deficit(id, level);
+                }
             }
-        }
-        due.sameView("after asking", View.of(x), before);
+        });
     }
 
     public static void main(String[] args) {
         everyLevelHasItsOwn();
         leavesAreApart();
+        othersHaveNone();
+        otherLevelsHaveNone();
         neverBelowZero();
-        wrongIdsAndLevels();
+        theLeastAndTheGreatest();
+        askingChangesNothing();
         due.end();
     }
 }

@@ -54,16 +54,17 @@ final class Due {
     }
 
     /** Compares all that two shapers, or one shaper at two times, show to the outside. */
-    void sameView(String when, long[] got, long[] want) {
+    boolean sameView(String when, long[] got, long[] want) {
         checks++;
         for (int i = 0; i < want.length; i++) {
             if (got[i] != want[i]) {
                 wrong++;
                 System.out.println(test + ": " + when + ": " + View.nameOf(i) + " answered " + got[i]
                         + ", due is " + want[i]);
-                return;
+                return false;
             }
         }
+        return true;
     }
 
     boolean anyWrong() {

@@ -1,9 +1,11 @@
 /** All that a shaper shows to the outside at one moment, as a row of numbers. */
 final class View {
+    /** The classes 0..15 stand first, each at the place of its id. */
     private static final int[] IDS = {
         0, 1, 2, 3, 4, 5, 6, 7, 8, 9, 10, 11, 12, 13, 14, 15,
         16, 17, 31, 32, -1, -2, -16, Integer.MAX_VALUE, Integer.MIN_VALUE
     };
+    /** The real levels 0..2 stand first, each at its own place. */
     private static final int[] LEVELS = {0, 1, 2, 3, 4, -1, -2, Integer.MAX_VALUE, Integer.MIN_VALUE};
     private static final int[] FAR_LOG_PLACES = {
         64, 65, 127, 128, -1, -2, -64, Integer.MAX_VALUE, Integer.MIN_VALUE
@@ -46,6 +48,22 @@ final class View {
             view[at++] = x.logEntry(k);
         }
         return view;
+    }
+
+    /** Where in a view the answer to one question about a class 0..15 stands. */
+    static int placeOf(String asked, int id) {
+        return id * PER_ID + java.util.List.of(ASKED).indexOf(asked);
+    }
+
+    static int deficitPlace(int id, int level) {
+        return id * PER_ID + ASKED.length + level;
+    }
+
+    /** A view without anything that is asked of a class 0..15. */
+    static long[] without(int id, long[] view) {
+        long[] rest = view.clone();
+        java.util.Arrays.fill(rest, id * PER_ID, (id + 1) * PER_ID, 0);
+        return rest;
     }
 
     static String nameOf(int place) {
