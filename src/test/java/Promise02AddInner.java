@@ -61,47 +61,21 @@ public final class Promise02AddInner {
 
     /** "rate is clamped into 1..65536" */
     private static void rateIsClamped() {
-        int[][] givenAndDue = {
-            {1, 1}, {2, 2}, {300, 300}, {65535, 65535}, {65536, 65536},
-            {0, 1}, {-1, 1}, {-65536, 1}, {Integer.MIN_VALUE, 1},
-            {65537, 65536}, {131073, 65536}, {Integer.MAX_VALUE, 65536}
-        };
-        for (int[] row : givenAndDue) {
+        for (int[] row : Edges.RATES) {
             clamped(row[0], 65536, row[1], 65536);
         }
     }
 
     /** "ceil is clamped into r..65536, where r is the clamped rate (below r becomes r)" */
     private static void ceilIsClamped() {
-        int[][] rateCeilAndDue = {
-            {100, 100, 100, 100}, {100, 101, 100, 101}, {100, 65535, 100, 65535}, {100, 65536, 100, 65536},
-            {100, 99, 100, 100}, {100, 1, 100, 100}, {100, 0, 100, 100}, {100, -1, 100, 100},
-            {100, Integer.MIN_VALUE, 100, 100}, {100, 65537, 100, 65536}, {100, Integer.MAX_VALUE, 100, 65536},
-            {1, 1, 1, 1}, {1, 0, 1, 1}, {1, 2, 1, 2},
-            {65536, 65535, 65536, 65536}, {65536, 65536, 65536, 65536}, {65536, 65537, 65536, 65536}
-        };
-        for (int[] row : rateCeilAndDue) {
+        for (int[] row : Edges.CEILS) {
             clamped(row[0], row[1], row[2], row[3]);
         }
     }
 
-    /** The r of the ceil is "the clamped rate", not the rate that was given. */
-    private static void ceilIsClampedToTheClampedRate() {
-        clamped(0, 0, 1, 1);
-        clamped(-5, -9, 1, 1);
-        clamped(-9, -5, 1, 1);
-        clamped(Integer.MIN_VALUE, Integer.MIN_VALUE, 1, 1);
-        clamped(0, 5, 1, 5);
-        clamped(65537, 5, 65536, 65536);
-        clamped(65538, 65537, 65536, 65536);
-        clamped(Integer.MAX_VALUE, Integer.MIN_VALUE, 65536, 65536);
-        clamped(Integer.MAX_VALUE, Integer.MAX_VALUE, 65536, 65536);
-    }
-
     /** The clamped rate and ceil are also what a tick adds: at the lower ends, */
     private static void theLeastRatesRefill() {
-        int[][] rateCeilAndDue = {{1, 1, 1, 1}, {0, 0, 1, 1}, {-7, 3, 1, 3}, {2, 1, 2, 2}, {2, 3, 2, 3}};
-        for (int[] row : rateCeilAndDue) {
+        for (int[] row : Edges.LOW_RATES) {
             HierShaper x = Shapers.oneInner(row[0], row[1], 16);
             Sends.offer(x, 2, 100);
             due.is("run(1)", x.run(1), 1);
@@ -151,7 +125,6 @@ public final class Promise02AddInner {
         theEndsOfTheRangeExistOnceAdded();
         rateIsClamped();
         ceilIsClamped();
-        ceilIsClampedToTheClampedRate();
         theLeastRatesRefill();
         theGreatestRatesRefill();
         aLateClassStartsFull();

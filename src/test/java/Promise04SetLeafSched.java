@@ -127,7 +127,7 @@ public final class Promise04SetLeafSched {
                 int other = priority;
                 Twins.unchangedBy(due, "setLeafSched(" + leaf + ", ..) and back", x -> {
                     x.setLeafSched(leaf, other, 2000);
-                    Family.setOwnSched(x, leaf);
+                    Family.setOwnSched(new Program(x), leaf);
                 });
             }
         }

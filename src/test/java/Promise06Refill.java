@@ -1,6 +1,3 @@
-import java.util.List;
-import java.util.function.Supplier;
-
 /** Promise 6, ticks and refill. Above each test stand the words of the document it holds the program to. */
 public final class Promise06Refill {
     private static final Due due = new Due("Promise06Refill");
@@ -39,11 +36,10 @@ public final class Promise06Refill {
 
     /** "For each tick, in turn": a call of n ticks is n calls of one tick. */
     private static void ticksComeInTurn() {
-        List<Supplier<HierShaper>> states = List.of(Family::rested, Family::worn, Family::starved);
-        for (Supplier<HierShaper> state : states) {
+        for (Family.State state : Family.STATES) {
             for (int ticks : new int[] {1, 2, 3, 9, 63, 64}) {
-                HierShaper many = state.get();
-                HierShaper single = state.get();
+                HierShaper many = state.program();
+                HierShaper single = state.program();
                 int sent = 0;
                 for (int i = 0; i < ticks; i++) {
                     sent += single.run(1);

@@ -1,39 +1,36 @@
-import java.util.List;
 import java.util.function.Consumer;
-import java.util.function.Supplier;
 import java.util.function.ToIntFunction;
 import java.util.function.UnaryOperator;
 
 /**
- * Two shapers made alike, one of which has had a call more. The same calls follow on both, so that a
- * difference in what no call answers (pointers, priorities, quanta, rates, the order of a queue) shows.
+ * The program and the model made alike, of which the program has had a call more. The same calls follow on
+ * both, so that a change in what no call answers (a pointer, a priority, a rate, the order of a queue) shows.
  */
 final class Twins {
-    private static final List<Supplier<HierShaper>> STATES =
-            List.of(Family::rested, Family::worn, Family::starved);
-    /** 0: the classes as they are; 1 to 4: all leaves at one priority; 5 to 8: so too, on a tree filled up. */
-    private static final int FUTURES = 9;
-    private static final int ROUNDS = 30;
+    /** 0: the classes as they are; 1 to 4: all leaves at one priority; 5: every missing class added. */
+    private static final int FUTURES = 6;
+    private static final int ROUNDS = 12;
     private static final int NEW_INNER = 6;
     private static final int NONE = 99;
 
     private final Due due;
     private final String call;
-    private final HierShaper touched;
-    private final HierShaper untouched;
+    private final Shaper program;
+    private final Shaper model;
     private final int leftAlone;
     private final UnaryOperator<long[]> compared;
     private boolean apart = false;
 
-    private Twins(Due due, String call, Supplier<HierShaper> state, Consumer<HierShaper> made, int leftAlone,
+    private Twins(Due due, String call, Family.State state, Consumer<HierShaper> made, int leftAlone,
             UnaryOperator<long[]> compared) {
         this.due = due;
-        this.call = call;
+        this.call = call + " on a shaper " + state.name();
         this.leftAlone = leftAlone;
         this.compared = compared;
-        touched = state.get();
-        untouched = state.get();
-        made.accept(touched);
+        HierShaper x = state.program();
+        made.accept(x);
+        program = new Program(x);
+        model = state.model();
     }
 
     /** The call is refused with the answer that is due, and changes nothing at all. */
@@ -43,14 +40,14 @@ final class Twins {
 
     /** The calls change nothing at all. */
     static void unchangedBy(Due due, String calls, Consumer<HierShaper> made) {
-        for (Supplier<HierShaper> state : STATES) {
+        for (Family.State state : Family.STATES) {
             compareFutures(due, calls, state, made, NONE, view -> view);
         }
     }
 
     /** The call makes class id, and all that has nothing to do with that class goes on as without it. */
     static void adds(Due due, String call, int id, ToIntFunction<HierShaper> made) {
-        for (Supplier<HierShaper> state : STATES) {
+        for (Family.State state : Family.STATES) {
             compareFutures(due, call, state, x -> due.is(call, made.applyAsInt(x), HierShaper.OK), id,
                     view -> View.without(id, view));
         }
@@ -59,15 +56,15 @@ final class Twins {
     /** On a full queue the packet is dropped, and nothing but the leaf's droppedBytes is changed. */
     static void drops(Due due, int leaf, int size) {
         String call = "enqueue(" + leaf + ", " + size + ")";
-        compareFutures(due, call, Family::starved,
+        compareFutures(due, call, Family.STARVED,
                 x -> due.is(call, x.enqueue(leaf, size), HierShaper.DROPPED), NONE, view -> {
                     view[View.placeOf("droppedBytes", leaf)] = 0;
                     return view;
                 });
     }
 
-    private static void compareFutures(Due due, String call, Supplier<HierShaper> state,
-            Consumer<HierShaper> made, int leftAlone, UnaryOperator<long[]> compared) {
+    private static void compareFutures(Due due, String call, Family.State state, Consumer<HierShaper> made,
+            int leftAlone, UnaryOperator<long[]> compared) {
         for (int future = 0; future < FUTURES; future++) {
             new Twins(due, call, state, made, leftAlone, compared).live(future);
         }
@@ -75,11 +72,10 @@ final class Twins {
 
     private void live(int future) {
         compareViews("right after");
-        if (future > 4) {
+        if (future == FUTURES - 1) {
             fillTheTree();
-        }
-        if (future > 0) {
-            setPriorities((future - 1) % 4);
+        } else if (future > 0) {
+            setPriorities(future - 1);
         }
         for (int round = 0; round < ROUNDS && !apart; round++) {
             offerToAll(round);
@@ -91,20 +87,16 @@ final class Twins {
 
     private void fillTheTree() {
         both("addInner(" + NEW_INNER + ", 2000, 65536)", x -> x.addInner(NEW_INNER, 2000, 65536));
-        for (int id = 1; id <= 15; id++) {
-            int leaf = id;
-            if (id != leftAlone) {
-                both("addLeaf(" + id + ", ..)", x -> x.addLeaf(leaf, NEW_INNER, leaf, 65536));
+        for (int id : Family.MISSING) {
+            if (id != NEW_INNER && id != leftAlone) {
+                both("addLeaf(" + id + ", ..)", x -> x.addLeaf(id, NEW_INNER, id, 65536));
             }
         }
     }
 
     private void setPriorities(int priority) {
-        for (int id = 1; id <= 15; id++) {
-            int leaf = id;
-            if (id != leftAlone) {
-                both("setLeafSched(" + id + ", ..)", x -> x.setLeafSched(leaf, priority, 256));
-            }
+        for (int leaf : Family.LEAVES) {
+            both("setLeafSched(" + leaf + ", ..)", x -> x.setLeafSched(leaf, priority, 256));
         }
     }
 
@@ -118,9 +110,9 @@ final class Twins {
         }
     }
 
-    private void both(String later, ToIntFunction<HierShaper> made) {
-        int got = made.applyAsInt(touched);
-        int want = made.applyAsInt(untouched);
+    private void both(String later, ToIntFunction<Shaper> made) {
+        int got = made.applyAsInt(program);
+        int want = made.applyAsInt(model);
         if (!apart && got != want) {
             apart = true;
             due.is(later + " some time after " + call, got, want);
@@ -129,8 +121,8 @@ final class Twins {
 
     private void compareViews(String when) {
         if (!apart) {
-            apart = !due.sameView(when + " " + call, compared.apply(View.of(touched)),
-                    compared.apply(View.of(untouched)));
+            apart = !due.sameView(when + " " + call, compared.apply(View.of(program)),
+                    compared.apply(View.of(model)));
         }
     }
 }
