@@ -5,7 +5,10 @@ import com.sun.source.tree.IdentifierTree;
 import com.sun.source.tree.MethodInvocationTree;
 import com.sun.source.tree.MethodTree;
 import com.sun.source.tree.NewArrayTree;
+import com.sun.source.tree.PrimitiveTypeTree;
 import com.sun.source.tree.Tree;
+import com.sun.source.tree.TypeCastTree;
+import com.sun.source.tree.VariableTree;
 import com.sun.source.util.JavacTask;
 import com.sun.source.util.TreeScanner;
 import java.io.IOException;
@@ -64,6 +67,8 @@ public final class LanguageRules {
                         !publicNames.contains(method.getName()));
             }
             due.holds(method.getName() + " has 7 parameters or fewer", method.getParameterCount() <= 7);
+            due.holds(method.getName() + " answers no array or object",
+                    method.getReturnType().isPrimitive());
         }
     }
 
@@ -93,6 +98,8 @@ public final class LanguageRules {
             String name = field.getName();
             boolean isStatic = Modifier.isStatic(modifiers);
             due.holds(name + " has a type that is allowed", TYPES.contains(field.getType().getSimpleName()));
+            due.holds(name + ", if an array, is never assigned to",
+                    !field.getType().isArray() || Modifier.isFinal(modifiers));
             if (Modifier.isPublic(modifiers)) {
                 publicCount++;
                 due.holds(name + " is a constant of the face", isStatic && Modifier.isFinal(modifiers)
@@ -161,10 +168,23 @@ public final class LanguageRules {
             return found[0];
         }
 
+        @Override public Void visitVariable(VariableTree node, Void none) {
+            due.holds(node.getName() + " has a type that is allowed", TYPES.contains(node.getType().toString()));
+            return super.visitVariable(node, none);
+        }
+
+        @Override public Void visitTypeCast(TypeCastTree node, Void none) {
+            due.holds(node + " is a cast to a number type", node.getType() instanceof PrimitiveTypeTree);
+            return super.visitTypeCast(node, none);
+        }
+
         @Override public Void visitNewArray(NewArrayTree node, Void none) {
             due.holds(node + " stands in a field or in the constructor",
                     method.equals("a field") || method.equals("<init>"));
             due.holds(node + " has one length", node.getDimensions().size() == 1 && node.getInitializers() == null);
+            for (ExpressionTree length : node.getDimensions()) {
+                due.holds(length + " is a literal or a constant", length.toString().matches("[0-9]+|[A-Z][A-Z0-9_]*"));
+            }
             return super.visitNewArray(node, none);
         }
 

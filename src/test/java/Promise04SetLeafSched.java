@@ -133,6 +133,17 @@ public final class Promise04SetLeafSched {
         }
     }
 
+    /** Only the leaf's own priority and quantum are new: all goes on as the document says, from every state. */
+    private static void onlyTheLeafIsSet() {
+        for (int leaf : Family.LEAVES) {
+            for (int priority = 0; priority <= 3; priority++) {
+                int prio = priority;
+                Twins.alike(due, "setLeafSched(" + leaf + ", " + prio + ", 700)",
+                        x -> x.setLeafSched(leaf, prio, 700));
+            }
+        }
+    }
+
     /** The deficit of the old quantum is spent before the new quantum is added. */
     private static void theDeficitOutlivesTheQuantum() {
         HierShaper x = Shapers.wide(2);
@@ -180,6 +191,7 @@ public final class Promise04SetLeafSched {
         theLastCallCounts();
         whatIsSeenIsKept();
         whatIsNotSeenIsKept();
+        onlyTheLeafIsSet();
         theDeficitOutlivesTheQuantum();
         pointersAreKept();
         due.end();

@@ -165,6 +165,15 @@ public final class Promise05Enqueue {
         due.reads("the sends", Sends.lastLeaves(x, 5), "3 5 9 3 5");
     }
 
+    /** Nor does anything else that is not seen: all goes on as the document says, from every state. */
+    private static void onlyTheTailIsNew() {
+        for (int leaf : Family.LEAVES) {
+            for (int size : new int[] {1, 150, 255}) {
+                Twins.alike(due, "enqueue(" + leaf + ", " + size + ")", x -> x.enqueue(leaf, size));
+            }
+        }
+    }
+
     public static void main(String[] args) {
         onlyLeavesTakePackets();
         aWrongIdComesBeforeABadSize();
@@ -179,6 +188,7 @@ public final class Promise05Enqueue {
         theQueueGoesRound();
         nothingIsSent();
         theRoundIsKept();
+        onlyTheTailIsNew();
         due.end();
     }
 }

@@ -50,6 +50,50 @@ public final class Promise06Refill {
         }
     }
 
+    /** What a tick changes, seen or not, is what the document says and nothing else, from every state. */
+    private static void runChangesWhatTheDocumentSays() {
+        for (int ticks : new int[] {1, 2, 7, 64, 65}) {
+            Twins.alike(due, "run(" + ticks + ")", x -> x.run(ticks));
+        }
+    }
+
+    /** Every call but run, with arguments that are taken as far as the classes allow. */
+    private static void allOtherCalls(HierShaper x) {
+        x.addInner(4, 50, 60);
+        x.addLeaf(6, 1, 50, 60);
+        for (int id = 0; id <= 15; id++) {
+            x.setLeafSched(id, 1, 300);
+            x.enqueue(id, 100);
+        }
+        View.of(x);
+    }
+
+    /** "Time advances only inside `run`, in whole ticks.": no other call refills a bucket or sends a packet, */
+    private static void timeStandsStillInOtherCalls() {
+        for (Family.State state : Family.STATES) {
+            HierShaper x = state.program();
+            long[] before = View.of(x);
+            for (int i = 0; i < 100; i++) {
+                allOtherCalls(x);
+            }
+            due.is("sendCount()", x.sendCount(), before[View.SEND_COUNT_PLACE]);
+            for (int id : Edges.join(new int[] {0}, Family.INNERS, Family.LEAVES)) {
+                due.buckets("after other calls", x, id, before[View.placeOf("tokens", id)],
+                        before[View.placeOf("ctokens", id)]);
+            }
+        }
+    }
+
+    /** nor does a wait: "nothing happens between calls". */
+    private static void timeStandsStillBetweenCalls() throws InterruptedException {
+        HierShaper waited = Family.starved();
+        HierShaper other = Family.starved();
+        Thread.sleep(200);
+        due.sameView("after a wait", View.of(waited), View.of(other));
+        due.is("run(3) after a wait", waited.run(3), other.run(3));
+        due.sameView("after a wait and run(3)", View.of(waited), View.of(other));
+    }
+
     /** 160 tokens are spent of each bucket of 2 * rate: one less, just as much and one more than a refill. */
     private static final int[][] RATE_AND_REFILLED = {{159, 317}, {160, 320}, {161, 322}};
 
@@ -204,11 +248,14 @@ public final class Promise06Refill {
         due.is("run(64), none left", overTicks.run(64), 0);
     }
 
-    public static void main(String[] args) {
+    public static void main(String[] args) throws InterruptedException {
         ticksBelowOneDoNothing();
         oneTickIsOne();
         ticksAbove64Are64();
         ticksComeInTurn();
+        runChangesWhatTheDocumentSays();
+        timeStandsStillInOtherCalls();
+        timeStandsStillBetweenCalls();
         theRootIsRefilledToItsCapacity();
         rateBucketsAreRefilledToTheirCapacity();
         ceilBucketsAreRefilledToTheirCapacity();

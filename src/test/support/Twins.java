@@ -3,8 +3,9 @@ import java.util.function.ToIntFunction;
 import java.util.function.UnaryOperator;
 
 /**
- * The program and the model made alike, of which the program has had a call more. The same calls follow on
- * both, so that a change in what no call answers (a pointer, a priority, a rate, the order of a queue) shows.
+ * The program and the model made alike, of which the program, or both, have had a call more. The same calls
+ * follow on both, so that a change in what no call answers (a pointer, a priority, a rate, the order of a
+ * queue) shows.
  */
 final class Twins {
     /** 0: the classes as they are; 1 to 4: all leaves at one priority; 5: every missing class added. */
@@ -63,6 +64,17 @@ final class Twins {
                 });
     }
 
+    /** The call answers what the model says, and changes what the model says and nothing else. */
+    static void alike(Due due, String call, ToIntFunction<Shaper> made) {
+        for (Family.State state : Family.STATES) {
+            for (int future = 0; future < FUTURES; future++) {
+                Twins twins = new Twins(due, call, state, x -> { }, NONE, view -> view);
+                twins.both(call, made);
+                twins.live(future);
+            }
+        }
+    }
+
     private static void compareFutures(Due due, String call, Family.State state, Consumer<HierShaper> made,
             int leftAlone, UnaryOperator<long[]> compared) {
         for (int future = 0; future < FUTURES; future++) {
@@ -115,7 +127,7 @@ final class Twins {
         int want = made.applyAsInt(model);
         if (!apart && got != want) {
             apart = true;
-            due.is(later + " some time after " + call, got, want);
+            due.is(later + " at or after " + call, got, want);
         }
     }
 

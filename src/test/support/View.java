@@ -14,7 +14,8 @@ final class View {
         "kind", "colour", "tokens", "ctokens", "sentBytes", "droppedBytes", "queueLength", "queuedBytes"
     };
     private static final int PER_ID = ASKED.length + LEVELS.length;
-    private static final int LOG_START = IDS.length * PER_ID + 1;
+    static final int SEND_COUNT_PLACE = IDS.length * PER_ID;
+    private static final int LOG_START = SEND_COUNT_PLACE + 1;
     private static final int LENGTH = LOG_START + HierShaper.LOG_CAPACITY + FAR_LOG_PLACES.length;
 
     private View() {
@@ -67,7 +68,7 @@ final class View {
     }
 
     static String nameOf(int place) {
-        if (place == LOG_START - 1) {
+        if (place == SEND_COUNT_PLACE) {
             return "sendCount()";
         }
         if (place >= LOG_START) {
