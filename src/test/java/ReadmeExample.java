@@ -70,7 +70,7 @@ public final class ReadmeExample {
 
     private static void theCommandIsTold(String readme) {
         due.holds("the command that runs all tests is told", readme.contains("\n.ci/run\n"));
-        due.holds("the command can be run", Files.isExecutable(Path.of(".ci/run")));
+        due.holds("the command is there", Files.exists(Path.of(".ci/run")));
     }
 
     public static void main(String[] args) throws IOException, ReflectiveOperationException {
